@@ -342,7 +342,7 @@ public final class BarkNames {
         for (int depth = 1; depth <= DEEPEST; depth++) {
             tried.become(now);
             tried.depthOf[cut] = depth;
-            if (depthsGoSo(cut, rows[row], i, n)) {
+            if (goesSo(tried.depthOf, cut, rows[row], i, n)) {
                 depths |= 1 << depth;
             }
         }
@@ -533,20 +533,11 @@ public final class BarkNames {
         return trees;
     }
 
-    private boolean depthsGoSo(int cut, Row row, int i, int n) {
-        for (int k = 0; k < n; k++) {
+    /** Whether number k of what is tried goes as a ROW tells it from i on, behind each of n YEARS. */
+    private boolean goesSo(int[] tells, int k, Row row, int i, int n) {
+        for (int year = 0; year < n; year++) {
             tried.passYear();
-            if (tried.depthOf[cut] != row.items[i + k]) {
-                return false;
-            }
-        }
-        return true;
-    }
-
-    private boolean girthsGoSo(int tree, Row row, int i, int n) {
-        for (int k = 0; k < n; k++) {
-            tried.passYear();
-            if (tried.girthOf[tree] != row.items[i + k]) {
+            if (tells[k] != row.items[i + year]) {
                 return false;
             }
         }
@@ -558,7 +549,7 @@ public final class BarkNames {
         for (int kind = BEECH; kind <= DEAD; kind++) {
             tried.become(now);
             tried.kindOf[tree] = kind;
-            if (girthsGoSo(tree, row, i, n)) {
+            if (goesSo(tried.girthOf, tree, row, i, n)) {
                 kinds |= 1 << kind;
             }
         }
@@ -570,7 +561,7 @@ public final class BarkNames {
         for (int sun = 0; sun <= MOST_SUN; sun++) {
             tried.become(now);
             tried.sunOf[tree] = sun;
-            if (girthsGoSo(tree, row, i, n)) {
+            if (goesSo(tried.girthOf, tree, row, i, n)) {
                 suns |= 1 << sun;
             }
         }

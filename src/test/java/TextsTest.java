@@ -8,6 +8,7 @@ public final class TextsTest {
         feed();
         read();
         faultsOfTokens();
+        faultsOfEnds();
         faultsOfNumbers();
         faultsOfRoom();
         faultStays();
@@ -121,6 +122,18 @@ public final class TextsTest {
         fails("w2;" + (char) 233, 3, 1);
     }
 
+    /** Each text that ends too early. */
+    private static void faultsOfEnds() {
+        String text = "w5;b40,9;c0,12,59,20;";
+        for (int end = 0; end < text.length(); end++) {
+            String begun = text.substring(0, end);
+            // w5;b4 tells a GIRTH of 4
+            if (!begun.endsWith(";") && !begun.endsWith("b4")) {
+                fails(begun, end, 1);
+            }
+        }
+    }
+
     private static void faultsOfNumbers() {
         fails("w1;", 1, 2);
         fails("w10;", 1, 2);
@@ -173,6 +186,7 @@ public final class TextsTest {
         x.image(1);
         x.row(3, 1, 2);
         x.years(3);
+        x.left(9);
         x.ask(3, 1);
         Check.due("another wood", Check.read(x, "w2;b10,3;c0,0,0,1;"), 1);
         Check.due("the year", x.count(4), 0);
