@@ -5,6 +5,7 @@ public final class EdgesOfTextsTest {
 
     public static void main(String[] args) {
         tapeOf140();
+        longestWood();
         bytes();
         letters();
         figures();
@@ -64,6 +65,19 @@ public final class EdgesOfTextsTest {
         Check.due("byte 141 of no such number: BAD ahead of FULL", x.feed(256), Check.BAD);
         x.wood();
         Check.due("room again", x.feed(';'), 1);
+    }
+
+    /** Each NUMBER has two figures: 136 bytes. */
+    private static void longestWood() {
+        Check.says("THE TAPE has at most 140 bytes");
+        StringBuilder s = new StringBuilder("w09;b10,00;o90,09;p10,00;d90,09;");
+        for (int cut = 0; cut < 8; cut++) {
+            s.append("c0").append(cut % 4).append(",25,0").append(cut).append(",20;");
+        }
+        Check.due("its bytes", s.length(), 136);
+        reads(s.toString(), 8);
+        fails(s + "c000", 136, 3);
+        fails(s + "0000", 136, 1);
     }
 
     private static void bytes() {
