@@ -33,6 +33,7 @@ public final class EdgesForetoldTest {
         whichKinds();
         whichYears();
         whichSuns();
+        whichBehindTheLastYear();
         whichRefused();
         rowsOfEachLane();
         stormEnds();
@@ -446,6 +447,26 @@ public final class EdgesForetoldTest {
         x = Check.of("w2;y40,5;");
         Check.fill(x, 46, 50, 56);
         Check.due("a birch's 9", x.which(0, 0, 0, 3, 1), 1 << 9);
+    }
+
+    private static void whichBehindTheLastYear() {
+        Check.says("FORETOLD (nothing changes), d YEARS from now");
+        // only years() is FULL beyond YEAR 999; a dead tree and an oak of SUN 0 can grow yet by another KIND or SUN
+        BarkNames x = Check.of("w2;d40,9;o10,0;");
+        for (int i = 0; i < 49; i++) {
+            x.years(20);
+        }
+        x.years(19);
+        Check.due("YEAR", x.count(4), 999);
+        Check.due("beyond it", x.years(1), Check.FULL);
+        Check.fill(x, 44, 48, 50, 11, 12, 12, 14);
+        Check.due("YEAR 999 is odd: a beech, a birch", x.which(0, 0, 0, 1, 0), 1 << 1 | 1 << 3);
+        Check.due("YEAR 1000 is even: a beech", x.which(0, 0, 0, 2, 0), 1 << 1);
+        x.set(0, 1, 50);
+        Check.due("YEAR 1000 is even: a birch", x.which(0, 0, 0, 2, 0), 1 << 3);
+        Check.due("an oak's SUNS of 3 to 8", x.which(1, 0, 3, 2, 1), 0x1F8);
+        Check.due("an oak's SUN 9", x.which(1, 0, 5, 2, 1), 1 << 9);
+        Check.due("YEAR stays", x.count(4), 999);
     }
 
     private static void whichRefused() {

@@ -22,6 +22,8 @@ public final class FaceTest {
         "Object", "Class", "System\\.(?!arraycopy)", "\\w+Exact\\(", "hashCode", "toString\\(\\) *\\{", "->", "::",
     };
 
+    private static final String LIBRARY = "Math.max Math.min Math.abs Integer.bitCount System.arraycopy Arrays.fill";
+
     public static void main(String[] args) throws IOException {
         methods();
         constants();
@@ -102,6 +104,13 @@ public final class FaceTest {
             boolean fine = imports.group(1).matches("java\\.util\\.(Arrays|ArrayList|List|Iterator)");
             Check.due("import " + imports.group(1), fine ? 1 : 0, 1);
         }
+        Set<String> library = new TreeSet<>(Arrays.asList(LIBRARY.split(" ")));
+        Matcher calls = Pattern.compile("\\b[A-Z]\\w*\\.\\w+(?=\\()").matcher(code);
+        while (calls.find()) {
+            Check.due("called: " + calls.group(), library.contains(calls.group()) ? 1 : 0, 1);
+        }
+        Check.due("a text, or joining of texts", code.indexOf('"'), -1);
+        Check.due("a sign that is none of 1 to 127", (int) source.chars().filter(c -> c < 1 || c > 127).count(), 0);
         // methods stand 4 or 8 blanks in, and so do their ends
         Matcher bodies = Pattern.compile("(?ms)^( {4}| {8})[^ \n][^\n]*\\) \\{\n.*?^\\1\\}$").matcher(source);
         while (bodies.find()) {
